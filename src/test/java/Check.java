@@ -1,0 +1,35 @@
+/** Counts and prints the answers that are not as due. */
+final class Check {
+    private int wrong = 0;
+    private String about = "";
+
+    void about(String text) {
+        about = text;
+    }
+
+    void due(String call, long got, long want) {
+        if (got != want) {
+            wrong++;
+            System.out.println(about + ": " + call + " answered " + got + ", due is " + want);
+        }
+    }
+
+    /** The answers of all calls of one kind, told by their last number from a first one on. */
+    void row(String call, long[] got, long... want) {
+        due(call + " how many", got.length, want.length);
+        for (int k = 0; k < Math.min(got.length, want.length); k++) {
+            due(call + " [" + k + "]", got[k], want[k]);
+        }
+    }
+
+    boolean failed() {
+        return wrong != 0;
+    }
+
+    void end() {
+        if (wrong != 0) {
+            System.out.println(wrong + " answers are not as due");
+            System.exit(1);
+        }
+    }
+}
