@@ -13,6 +13,7 @@ public final class LiveHull {
     private static final int FARTHEST = 1000000000;
     private static final int IMAGES = 2;
     private static final int ABOVE = 0, BELOW = 1;
+    private static final int LEFT = 0;
     private static final int OUT = 0, AT_CORNER = 1, AT_EDGE = 2, IN = 3;
 
     private final Points points;
@@ -650,7 +651,7 @@ public final class LiveHull {
                 // From the place by this corner to another one is the same turn as from this
                 // corner by the other one to the place.
                 long turn = points.turn(rank, ranks[k], x, y);
-                if (side == 0 ? turn < 0 : turn > 0) {
+                if (side == LEFT ? turn < 0 : turn > 0) {
                     return false;
                 }
             }

@@ -131,6 +131,12 @@ public final class ImagesTest {
         // BELOW all are corners at each DEPTH; ABOVE two of each PART, one of a single POINT, so
         // that of the corners of each half of more than one a single one is left as its REST.
         toldIs(full, 32, 63, 6 * 32 + 2 * 31 + 32, 30, 5);
+        LiveHull column = new LiveHull();
+        for (int k = 0; k < 32; k++) {
+            column.add(0, k);
+        }
+        // Each PART has one corner a side, and one of its two halves has the same one.
+        toldIs(column, 32, 63, 2 * 63, 2 * 31, 5);
         int[] depths = {0, 1, 2, 2, 3, 3, 3, 3, 4, 4, 4, 4, 4, 4, 4, 4, 5, 5};
         LiveHull hull = new LiveHull();
         for (int count = 1; count <= depths.length; count++) {

@@ -168,6 +168,15 @@ public final class PointsTest {
         check.due("straight, rank 1: ABOVE", straight.point(1, 3), 2);
         check.due("straight, rank 2: BELOW", straight.point(2, 4), 1);
         check.due("straight, rank 3: ABOVE", straight.point(3, 3), 1);
+        LiveHull column = new LiveHull();
+        for (int k = 0; k < 32; k++) {
+            column.add(0, k);
+        }
+        check.due("column, the lowest: ABOVE", column.point(0, 3), 5);
+        check.due("column, the lowest: BELOW", column.point(0, 4), 0);
+        check.due("column, the highest: ABOVE", column.point(31, 3), 0);
+        check.due("column, the highest: BELOW", column.point(31, 4), 5);
+        check.due("column, over the middle: BELOW", column.point(16, 4), 1);
     }
 
     private static void pointRefuses() {

@@ -8,6 +8,7 @@ public final class RoundTest {
         roundGoesBelowThenAbove();
         roundOfFewPoints();
         roundOfThirtyTwoCorners();
+        roundFollowsChanges();
         extremes();
         extremeOfAsGreat();
         extremeRefuses();
@@ -76,6 +77,20 @@ public final class RoundTest {
             due[31 - k] = 2 * k + 1;
         }
         roundIs(hull, due);
+    }
+
+    private static void roundFollowsChanges() {
+        check.about("promise 10, changes");
+        LiveHull hull = square();
+        hull.move(5, 20, 5);
+        roundIs(hull, 0, 1, 5, 2, 3);
+        hull.remove(1);
+        roundIs(hull, 0, 4, 5, 2, 3);
+        hull.move(2, 5, 5);
+        roundIs(hull, 0, 4, 5, 3);
+        hull.remove(0);
+        hull.remove(3);
+        roundIs(hull, 4, 5, 2);
     }
 
     private static void extremes() {
