@@ -1,7 +1,16 @@
-/** Counts and prints the answers that are not as due. */
+/** What the tests share; counts and prints the answers that are not as due. */
 final class Check {
     private int wrong = 0;
     private String about = "";
+
+    /** A new object with POINTS, told by X and Y in turn. */
+    static LiveHull with(int... xy) {
+        LiveHull hull = new LiveHull();
+        for (int k = 0; k + 1 < xy.length; k += 2) {
+            hull.add(xy[k], xy[k + 1]);
+        }
+        return hull;
+    }
 
     void about(String text) {
         about = text;
@@ -14,7 +23,6 @@ final class Check {
         }
     }
 
-    /** The answers of all calls of one kind, told by their last number from a first one on. */
     void row(String call, long[] got, long... want) {
         due(call + " how many", got.length, want.length);
         for (int k = 0; k < Math.min(got.length, want.length); k++) {

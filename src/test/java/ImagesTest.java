@@ -14,17 +14,9 @@ public final class ImagesTest {
         check.end();
     }
 
-    private static LiveHull with(int... xy) {
-        LiveHull hull = new LiveHull();
-        for (int k = 0; k + 1 < xy.length; k += 2) {
-            hull.add(xy[k], xy[k + 1]);
-        }
-        return hull;
-    }
-
     private static void imageKeepsAll() {
         check.about("promises 15, 16");
-        LiveHull hull = with(0, 0, 9, 0, 0, 9, 9, 9);
+        LiveHull hull = Check.with(0, 0, 9, 0, 0, 9, 9, 9);
         hull.remove(1);
         check.due("image(0)", hull.image(0), 1);
         hull.add(20, 20);
@@ -49,7 +41,7 @@ public final class ImagesTest {
 
     private static void imagesAreTwo() {
         check.about("promises 15, 16, two");
-        LiveHull hull = with(0, 0);
+        LiveHull hull = Check.with(0, 0);
         hull.image(0);
         hull.add(5, 5);
         hull.image(1);
@@ -77,7 +69,7 @@ public final class ImagesTest {
 
     private static void imageIsKeptThroughRestore() {
         check.about("promises 15, 16, again");
-        LiveHull hull = with(0, 0, 4, 4);
+        LiveHull hull = Check.with(0, 0, 4, 4);
         hull.image(0);
         hull.restore(0);
         hull.move(0, 1, 1);
@@ -89,7 +81,7 @@ public final class ImagesTest {
 
     private static void imageRefuses() {
         check.about("promise 15, refused");
-        LiveHull hull = with(0, 0);
+        LiveHull hull = Check.with(0, 0);
         int[] none = {-1, 2, Integer.MIN_VALUE, Integer.MAX_VALUE};
         for (int n : none) {
             check.due("image(" + n + ")", hull.image(n), LiveHull.OUTSIDE);
@@ -100,7 +92,7 @@ public final class ImagesTest {
 
     private static void restoreRefuses() {
         check.about("promise 16, refused");
-        LiveHull hull = with(0, 0);
+        LiveHull hull = Check.with(0, 0);
         int[] none = {-1, 2, Integer.MIN_VALUE, Integer.MAX_VALUE};
         for (int n : none) {
             check.due("restore(" + n + ")", hull.restore(n), LiveHull.OUTSIDE);
@@ -119,11 +111,11 @@ public final class ImagesTest {
     private static void toldCounts() {
         check.about("promise 17");
         toldIs(new LiveHull(), 0, 0, 0, 0, LiveHull.NONE);
-        toldIs(with(5, 5), 1, 1, 2, 0, 0);
-        toldIs(with(5, 5, 8, 1), 2, 3, 8, 0, 1);
-        toldIs(with(5, 5, 5, 9), 2, 3, 6, 2, 1);
-        toldIs(with(0, 0, 1, 1, 2, 2), 3, 5, 14, 2, 2);
-        toldIs(with(0, 0, 1, 1, 2, 2, 3, 3, 4, 4), 5, 9, 26, 6, 3);
+        toldIs(Check.with(5, 5), 1, 1, 2, 0, 0);
+        toldIs(Check.with(5, 5, 8, 1), 2, 3, 8, 0, 1);
+        toldIs(Check.with(5, 5, 5, 9), 2, 3, 6, 2, 1);
+        toldIs(Check.with(0, 0, 1, 1, 2, 2), 3, 5, 14, 2, 2);
+        toldIs(Check.with(0, 0, 1, 1, 2, 2, 3, 3, 4, 4), 5, 9, 26, 6, 3);
         LiveHull full = new LiveHull();
         for (int k = 0; k < 32; k++) {
             full.add(k, k * k);
@@ -151,7 +143,7 @@ public final class ImagesTest {
         int[] none = {-1, 5, Integer.MIN_VALUE, Integer.MAX_VALUE};
         for (int what : none) {
             check.due("told(" + what + ")", new LiveHull().told(what), LiveHull.OUTSIDE);
-            check.due("told(" + what + ") of one", with(1, 1).told(what), LiveHull.OUTSIDE);
+            check.due("told(" + what + ") of one", Check.with(1, 1).told(what), LiveHull.OUTSIDE);
         }
     }
 }

@@ -17,14 +17,6 @@ public final class PartsTest {
         check.end();
     }
 
-    private static LiveHull with(int... xy) {
-        LiveHull hull = new LiveHull();
-        for (int k = 0; k + 1 < xy.length; k += 2) {
-            hull.add(xy[k], xy[k + 1]);
-        }
-        return hull;
-    }
-
     private static LiveHull flat(int count) {
         LiveHull hull = new LiveHull();
         for (int k = 0; k < count; k++) {
@@ -86,7 +78,7 @@ public final class PartsTest {
     private static void chainsAndRests() {
         check.about("promises 7, 8");
         // A low point in each half, a high one in the middle of all.
-        LiveHull hull = with(0, 0, 2, 1, 4, 9, 6, 9, 8, 1, 10, 0);
+        LiveHull hull = Check.with(0, 0, 2, 1, 4, 9, 6, 9, 8, 1, 10, 0);
         chainIs(hull, 1, ABOVE, 0, 2, 3, 5);
         chainIs(hull, 1, BELOW, 0, 5);
         chainIs(hull, 2, ABOVE, 0, 2);
@@ -116,32 +108,32 @@ public final class PartsTest {
 
     private static void chainOfOneColumn() {
         check.about("promise 8, one X");
-        LiveHull hull = with(3, 5, 3, 1, 3, 9, 3, 4);
+        LiveHull hull = Check.with(3, 5, 3, 1, 3, 9, 3, 4);
         chainIs(hull, 1, ABOVE, 2);
         chainIs(hull, 1, BELOW, 1);
         chainIs(hull, 2, ABOVE, 3);
         chainIs(hull, 3, BELOW, 0);
-        LiveHull box = with(0, 0, 0, 5, 0, 9, 9, 9, 9, 5, 9, 0);
+        LiveHull box = Check.with(0, 0, 0, 5, 0, 9, 9, 9, 9, 5, 9, 0);
         chainIs(box, 1, ABOVE, 2, 3);
         chainIs(box, 1, BELOW, 0, 5);
-        LiveHull kite = with(0, 0, 2, -3, 2, 0, 2, 3, 4, 0);
+        LiveHull kite = Check.with(0, 0, 2, -3, 2, 0, 2, 3, 4, 0);
         chainIs(kite, 1, ABOVE, 0, 3, 4);
         chainIs(kite, 1, BELOW, 0, 1, 4);
     }
 
     private static void chainKeepsNoStraightCorner() {
         check.about("promise 8, straight");
-        LiveHull hull = with(0, 0, 1, 2, 2, 4, 3, 6, 4, 0, 2, 0);
+        LiveHull hull = Check.with(0, 0, 1, 2, 2, 4, 3, 6, 4, 0, 2, 0);
         chainIs(hull, 1, ABOVE, 0, 3, 4);
         chainIs(hull, 1, BELOW, 0, 4);
         // So wide that 32 bits, or the digits of a double, would not do.
         int far = 1000000000;
-        LiveHull wide = with(-far, -far, 0, 0, far, far);
+        LiveHull wide = Check.with(-far, -far, 0, 0, far, far);
         chainIs(wide, 1, ABOVE, 0, 2);
         wide.move(1, 0, 1);
         chainIs(wide, 1, ABOVE, 0, 1, 2);
         chainIs(wide, 1, BELOW, 0, 2);
-        LiveHull fine = with(-far, -far, far - 1, far - 1, far, far);
+        LiveHull fine = Check.with(-far, -far, far - 1, far - 1, far, far);
         chainIs(fine, 1, ABOVE, 0, 2);
         fine.move(1, far - 1, far - 2);
         chainIs(fine, 1, BELOW, 0, 1, 2);
@@ -169,13 +161,13 @@ public final class PartsTest {
 
     private static void bridges() {
         check.about("promise 9");
-        LiveHull hull = with(0, 0, 2, 1, 4, 9, 6, 9, 8, 1, 10, 0);
+        LiveHull hull = Check.with(0, 0, 2, 1, 4, 9, 6, 9, 8, 1, 10, 0);
         bridgeIs(hull, 1, ABOVE, 2, 3);
         bridgeIs(hull, 1, BELOW, 0, 5);
         bridgeIs(hull, 2, BELOW, 1, 2);
         bridgeIs(hull, 2, ABOVE, 0, 2);
         bridgeIs(hull, 4, ABOVE, 0, 1);
-        LiveHull column = with(3, 1, 3, 5, 3, 9);
+        LiveHull column = Check.with(3, 1, 3, 5, 3, 9);
         bridgeIs(column, 1, ABOVE, LiveHull.NONE, 2);
         bridgeIs(column, 1, BELOW, 0, LiveHull.NONE);
         bridgeIs(column, 2, ABOVE, LiveHull.NONE, 1);

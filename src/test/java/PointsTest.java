@@ -18,14 +18,6 @@ public final class PointsTest {
         check.end();
     }
 
-    private static LiveHull with(int... xy) {
-        LiveHull hull = new LiveHull();
-        for (int k = 0; k + 1 < xy.length; k += 2) {
-            hull.add(xy[k], xy[k + 1]);
-        }
-        return hull;
-    }
-
     private static LiveHull full() {
         LiveHull hull = new LiveHull();
         for (int k = 0; k < 32; k++) {
@@ -89,7 +81,7 @@ public final class PointsTest {
 
     private static void removeTellsHowMany() {
         check.about("promise 3");
-        LiveHull hull = with(0, 0, 5, 5, 2, 9);
+        LiveHull hull = Check.with(0, 0, 5, 5, 2, 9);
         check.due("remove(-1)", hull.remove(-1), LiveHull.UNKNOWN);
         check.due("remove(3)", hull.remove(3), LiveHull.UNKNOWN);
         check.due("remove(32)", hull.remove(32), LiveHull.UNKNOWN);
@@ -107,7 +99,7 @@ public final class PointsTest {
 
     private static void moveKeepsTheId() {
         check.about("promise 4");
-        LiveHull hull = with(0, 0, 5, 5, 2, 9);
+        LiveHull hull = Check.with(0, 0, 5, 5, 2, 9);
         check.due("move(0, 7, 7)", hull.move(0, 7, 7), 1);
         check.due("point(0, 0)", hull.point(0, 0), 7);
         check.due("point(0, 1)", hull.point(0, 1), 7);
@@ -125,7 +117,7 @@ public final class PointsTest {
 
     private static void moveRefuses() {
         check.about("promise 4, refused");
-        LiveHull hull = with(0, 0, 5, 5);
+        LiveHull hull = Check.with(0, 0, 5, 5);
         check.due("UNKNOWN ahead of OUTSIDE", hull.move(2, FAR + 1, 0), LiveHull.UNKNOWN);
         check.due("move(-1, 3, 3)", hull.move(-1, 3, 3), LiveHull.UNKNOWN);
         check.due("move(32, 3, 3)", hull.move(32, 3, 3), LiveHull.UNKNOWN);
@@ -138,7 +130,7 @@ public final class PointsTest {
 
     private static void pointTells() {
         check.about("promise 5");
-        LiveHull hull = with(3, -4, -FAR, FAR, 3, -5);
+        LiveHull hull = Check.with(3, -4, -FAR, FAR, 3, -5);
         check.due("point(0, 0)", hull.point(0, 0), 3);
         check.due("point(0, 1)", hull.point(0, 1), -4);
         check.due("point(0, 2)", hull.point(0, 2), 2);
@@ -150,21 +142,21 @@ public final class PointsTest {
 
     private static void pointTellsTop() {
         check.about("promise 5, TOP");
-        LiveHull one = with(4, 4);
+        LiveHull one = Check.with(4, 4);
         check.due("one: ABOVE", one.point(0, 3), 0);
         check.due("one: BELOW", one.point(0, 4), 0);
         // Of one X: the upper one is hidden below down to its own PART, and the other way round.
-        LiveHull two = with(4, 4, 4, 5);
+        LiveHull two = Check.with(4, 4, 4, 5);
         check.due("lower: ABOVE", two.point(0, 3), 1);
         check.due("lower: BELOW", two.point(0, 4), 0);
         check.due("upper: ABOVE", two.point(1, 3), 0);
         check.due("upper: BELOW", two.point(1, 4), 1);
-        LiveHull tent = with(0, 0, 1, 5, 2, 6, 3, 0);
+        LiveHull tent = Check.with(0, 0, 1, 5, 2, 6, 3, 0);
         check.due("left end: ABOVE", tent.point(0, 3), 0);
         check.due("top: ABOVE", tent.point(1, 3), 0);
         check.due("top: BELOW", tent.point(1, 4), 1);
         check.due("right end: BELOW", tent.point(3, 4), 0);
-        LiveHull straight = with(0, 0, 1, 1, 2, 2, 3, 3, 4, 4);
+        LiveHull straight = Check.with(0, 0, 1, 1, 2, 2, 3, 3, 4, 4);
         check.due("straight, rank 1: ABOVE", straight.point(1, 3), 2);
         check.due("straight, rank 2: BELOW", straight.point(2, 4), 1);
         check.due("straight, rank 3: ABOVE", straight.point(3, 3), 1);
@@ -181,7 +173,7 @@ public final class PointsTest {
 
     private static void pointRefuses() {
         check.about("promise 5, refused");
-        LiveHull hull = with(3, -4);
+        LiveHull hull = Check.with(3, -4);
         check.due("point(1, 9)", hull.point(1, 9), LiveHull.UNKNOWN);
         check.due("point(-1, 0)", hull.point(-1, 0), LiveHull.UNKNOWN);
         check.due("point(32, 0)", hull.point(32, 0), LiveHull.UNKNOWN);
@@ -191,7 +183,7 @@ public final class PointsTest {
 
     private static void rankedFollowsXThenY() {
         check.about("promise 6");
-        LiveHull hull = with(2, 2, -1, 7, 2, -2, -1, -7, 0, 0, 2, 0);
+        LiveHull hull = Check.with(2, 2, -1, 7, 2, -2, -1, -7, 0, 0, 2, 0);
         int[] due = {3, 1, 4, 2, 5, 0};
         for (int rank = 0; rank < due.length; rank++) {
             check.due("ranked(" + rank + ")", hull.ranked(rank), due[rank]);
@@ -206,7 +198,7 @@ public final class PointsTest {
 
     private static void refusedCallsChangeNothing() {
         check.about("refused calls");
-        LiveHull hull = with(0, 0, 9, 0, 0, 9);
+        LiveHull hull = Check.with(0, 0, 9, 0, 0, 9);
         hull.add(FAR + 1, 1);
         hull.add(9, 0);
         hull.remove(3);

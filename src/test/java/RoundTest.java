@@ -23,16 +23,8 @@ public final class RoundTest {
         check.end();
     }
 
-    private static LiveHull with(int... xy) {
-        LiveHull hull = new LiveHull();
-        for (int k = 0; k + 1 < xy.length; k += 2) {
-            hull.add(xy[k], xy[k + 1]);
-        }
-        return hull;
-    }
-
     private static LiveHull square() {
-        return with(0, 0, 10, 0, 10, 10, 0, 10, 5, 0, 5, 5);
+        return Check.with(0, 0, 10, 0, 10, 10, 0, 10, 5, 0, 5, 5);
     }
 
     private static void roundIs(LiveHull hull, long... ids) {
@@ -51,17 +43,17 @@ public final class RoundTest {
     private static void roundGoesBelowThenAbove() {
         check.about("promise 10");
         roundIs(square(), 0, 1, 2, 3);
-        roundIs(with(0, 0, 3, 4, 6, 0, 3, -4), 0, 3, 2, 1);
-        roundIs(with(5, 9, 0, 0, 5, -9, 2, 8), 1, 2, 0, 3);
+        roundIs(Check.with(0, 0, 3, 4, 6, 0, 3, -4), 0, 3, 2, 1);
+        roundIs(Check.with(5, 9, 0, 0, 5, -9, 2, 8), 1, 2, 0, 3);
     }
 
     private static void roundOfFewPoints() {
         check.about("promise 10, few points");
         roundIs(new LiveHull());
-        roundIs(with(7, 7), 0);
-        roundIs(with(7, 7, 2, 9), 1, 0);
-        roundIs(with(7, 7, 7, 9, 7, 8), 0, 1);
-        roundIs(with(2, 2, 0, 0, 1, 1), 1, 0);
+        roundIs(Check.with(7, 7), 0);
+        roundIs(Check.with(7, 7, 2, 9), 1, 0);
+        roundIs(Check.with(7, 7, 7, 9, 7, 8), 0, 1);
+        roundIs(Check.with(2, 2, 0, 0, 1, 1), 1, 0);
     }
 
     private static void roundOfThirtyTwoCorners() {
@@ -95,35 +87,35 @@ public final class RoundTest {
 
     private static void extremes() {
         check.about("promise 11");
-        LiveHull hull = with(0, 0, 3, 4, 6, 0, 3, -4, 3, 0);
+        LiveHull hull = Check.with(0, 0, 3, 4, 6, 0, 3, -4, 3, 0);
         check.due("extreme(1, 0)", hull.extreme(1, 0), 2);
         check.due("extreme(-1, 0)", hull.extreme(-1, 0), 0);
         check.due("extreme(0, 1)", hull.extreme(0, 1), 1);
         check.due("extreme(0, -1)", hull.extreme(0, -1), 3);
         check.due("extreme(100, 74)", hull.extreme(100, 74), 2);
         check.due("extreme(100, 76)", hull.extreme(100, 76), 1);
-        LiveHull wide = with(-FAR, -FAR, FAR, FAR, FAR, FAR - 1);
+        LiveHull wide = Check.with(-FAR, -FAR, FAR, FAR, FAR, FAR - 1);
         check.due("wide", wide.extreme(FAR, FAR), 1);
         check.due("wide, the other way", wide.extreme(-FAR, -FAR), 0);
         check.due("wide, finely", wide.extreme(FAR, -1), 2);
-        check.due("one point", with(5, 5).extreme(-3, 1), 0);
+        check.due("one point", Check.with(5, 5).extreme(-3, 1), 0);
     }
 
     private static void extremeOfAsGreat() {
         check.about("promise 11, as great");
-        LiveHull hull = with(10, 10, 10, 0, 0, 10, 0, 0);
+        LiveHull hull = Check.with(10, 10, 10, 0, 0, 10, 0, 0);
         check.due("extreme(1, 0)", hull.extreme(1, 0), 1);
         check.due("extreme(-1, 0)", hull.extreme(-1, 0), 3);
         check.due("extreme(0, 1)", hull.extreme(0, 1), 2);
         check.due("extreme(0, -1)", hull.extreme(0, -1), 3);
-        LiveHull slope = with(4, 2, 0, 0, 2, 1);
+        LiveHull slope = Check.with(4, 2, 0, 0, 2, 1);
         check.due("extreme(-1, 2)", slope.extreme(-1, 2), 1);
         check.due("extreme(1, -2)", slope.extreme(1, -2), 1);
     }
 
     private static void extremeRefuses() {
         check.about("promise 11, refused");
-        LiveHull hull = with(1, 1);
+        LiveHull hull = Check.with(1, 1);
         check.due("both 0", hull.extreme(0, 0), LiveHull.NO);
         check.due("no POINT", new LiveHull().extreme(1, 0), LiveHull.NO);
         int[] beyond = {FAR + 1, -FAR - 1, Integer.MAX_VALUE, Integer.MIN_VALUE};
@@ -160,17 +152,17 @@ public final class RoundTest {
     private static void whereOfFewPoints() {
         check.about("promise 12, few points");
         check.due("none", new LiveHull().where(0, 0), OUT);
-        LiveHull one = with(4, 4);
+        LiveHull one = Check.with(4, 4);
         check.due("one, at it", one.where(4, 4), AT_CORNER);
         check.due("one, beside it", one.where(4, 5), OUT);
-        LiveHull two = with(0, 0, 4, 2);
+        LiveHull two = Check.with(0, 0, 4, 2);
         check.due("two, at one", two.where(4, 2), AT_CORNER);
         check.due("two, between", two.where(2, 1), AT_EDGE);
         check.due("two, on the line", two.where(6, 3), OUT);
         check.due("two, on the line, ahead", two.where(-2, -1), OUT);
         check.due("two, left of it", two.where(2, 2), OUT);
         check.due("two, right of it", two.where(2, 0), OUT);
-        LiveHull column = with(3, 1, 3, 9, 3, 4);
+        LiveHull column = Check.with(3, 1, 3, 9, 3, 4);
         check.due("column, a POINT between", column.where(3, 4), AT_EDGE);
         check.due("column, over it", column.where(3, 10), OUT);
         check.due("column, beside it", column.where(2, 4), OUT);
@@ -178,12 +170,12 @@ public final class RoundTest {
 
     private static void whereWide() {
         check.about("promise 12, wide");
-        LiveHull hull = with(-FAR, -FAR, FAR, FAR - 1, FAR, -FAR);
+        LiveHull hull = Check.with(-FAR, -FAR, FAR, FAR - 1, FAR, -FAR);
         check.due("just over the edge", hull.where(0, 0), OUT);
         check.due("just under the edge", hull.where(0, -1), IN);
         check.due("at the far edge", hull.where(FAR, 0), AT_EDGE);
         check.due("the free far corner", hull.where(-FAR, FAR), OUT);
-        LiveHull slope = with(-FAR, -FAR, FAR, FAR);
+        LiveHull slope = Check.with(-FAR, -FAR, FAR, FAR);
         check.due("slope, on it", slope.where(FAR - 1, FAR - 1), AT_EDGE);
         check.due("slope, beside it", slope.where(FAR - 1, FAR), OUT);
     }
@@ -202,8 +194,8 @@ public final class RoundTest {
         touchIs(hull, 5, -10, 1, 0);
         touchIs(hull, 20, 20, 3, 1);
         touchIs(hull, -FAR, -FAR, 1, 3);
-        touchIs(with(5, 5), 1, 1, 0, 0);
-        LiveHull wide = with(-FAR, FAR, FAR, FAR, FAR, FAR - 1);
+        touchIs(Check.with(5, 5), 1, 1, 0, 0);
+        LiveHull wide = Check.with(-FAR, FAR, FAR, FAR, FAR, FAR - 1);
         touchIs(wide, -FAR, -FAR, 2, 0);
         touchIs(wide, FAR, -FAR, 2, 0);
     }
@@ -217,21 +209,21 @@ public final class RoundTest {
         touchIs(hull, 10, -3, 1, 0);
         touchIs(hull, 30, 10, 2, 1);
         // A POINT that is no corner may be nearer, but only corners count.
-        touchIs(with(2, 0, 10, 0, 10, 8, 4, 2), 0, -2, 1, 0);
+        touchIs(Check.with(2, 0, 10, 0, 10, 8, 4, 2), 0, -2, 1, 0);
     }
 
     private static void touchStraight() {
         check.about("promise 13, straight");
-        LiveHull slope = with(0, 0, 2, 1, 4, 2);
+        LiveHull slope = Check.with(0, 0, 2, 1, 4, 2);
         touchIs(slope, 6, 3, 2, 2);
         touchIs(slope, -2, -1, 0, 0);
         touchIs(slope, 2, 5, 0, 2);
         touchIs(slope, 2, -5, 2, 0);
-        LiveHull column = with(3, 1, 3, 9, 3, 4);
+        LiveHull column = Check.with(3, 1, 3, 9, 3, 4);
         touchIs(column, 3, 0, 0, 0);
         touchIs(column, 3, 10, 1, 1);
         touchIs(column, 9, 4, 1, 0);
-        LiveHull wide = with(FAR - 1, FAR - 1, FAR, FAR);
+        LiveHull wide = Check.with(FAR - 1, FAR - 1, FAR, FAR);
         touchIs(wide, -FAR, -FAR, 0, 0);
     }
 
@@ -253,13 +245,13 @@ public final class RoundTest {
     private static void areas() {
         check.about("promise 14");
         check.due("none", new LiveHull().area(), 0);
-        check.due("one", with(5, 5).area(), 0);
-        check.due("two", with(5, 5, 9, 0).area(), 0);
-        check.due("straight", with(0, 0, 2, 1, 4, 2).area(), 0);
-        check.due("a triangle", with(0, 0, 1, 0, 0, 1).area(), 1);
+        check.due("one", Check.with(5, 5).area(), 0);
+        check.due("two", Check.with(5, 5, 9, 0).area(), 0);
+        check.due("straight", Check.with(0, 0, 2, 1, 4, 2).area(), 0);
+        check.due("a triangle", Check.with(0, 0, 1, 0, 0, 1).area(), 1);
         check.due("a square", square().area(), 200);
-        check.due("off the middle", with(100, 100, 103, 100, 100, 104).area(), 12);
-        LiveHull wide = with(-FAR, -FAR, FAR, -FAR, FAR, FAR, -FAR, FAR);
+        check.due("off the middle", Check.with(100, 100, 103, 100, 100, 104).area(), 12);
+        LiveHull wide = Check.with(-FAR, -FAR, FAR, -FAR, FAR, FAR, -FAR, FAR);
         check.due("all", wide.area(), 8000000000000000000L);
         wide.move(2, FAR, FAR - 1);
         check.due("all but a sliver", wide.area(), 8000000000000000000L - 2L * FAR);
