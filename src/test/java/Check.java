@@ -1,15 +1,46 @@
+import java.lang.reflect.InvocationTargetException;
+import java.lang.reflect.Method;
+import java.lang.reflect.Modifier;
+import java.util.Arrays;
+import java.util.Comparator;
+import java.util.List;
+import java.util.function.Supplier;
+import java.util.function.ToLongFunction;
+
 /** What the tests share; counts and prints the answers that are not as due. */
 final class Check {
     private int wrong = 0;
     private String about = "";
 
-    /** A new object with POINTS, told by X and Y in turn. */
-    static LiveHull with(int... xy) {
-        LiveHull hull = new LiveHull();
-        for (int k = 0; k + 1 < xy.length; k += 2) {
-            hull.add(xy[k], xy[k + 1]);
+    /** Runs each static method of a class that is not private and takes nothing, by its name. */
+    void runAll(Class<?> tests) throws IllegalAccessException {
+        Method[] methods = tests.getDeclaredMethods();
+        Arrays.sort(methods, Comparator.comparing(Method::getName));
+        int ran = 0;
+        for (Method method : methods) {
+            if (isTest(method)) {
+                about(tests.getName() + "." + method.getName());
+                run(method);
+                ran++;
+            }
         }
-        return hull;
+        System.out.println(tests.getName() + ": " + ran + " tests");
+        if (ran == 0) wrong++;
+        end();
+    }
+
+    private static boolean isTest(Method method) {
+        return method.getParameterCount() == 0 && Modifier.isStatic(method.getModifiers())
+            && !Modifier.isPrivate(method.getModifiers()) && !method.isSynthetic();
+    }
+
+    private void run(Method test) throws IllegalAccessException {
+        try {
+            test.invoke(null);
+        } catch (InvocationTargetException thrown) {
+            wrong++;
+            System.out.println(about + ": a call has thrown " + thrown.getCause());
+        }
     }
 
     void about(String text) {
@@ -27,6 +58,25 @@ final class Check {
         due(call + " how many", got.length, want.length);
         for (int k = 0; k < Math.min(got.length, want.length); k++) {
             due(call + " [" + k + "]", got[k], want[k]);
+        }
+    }
+
+    /** The call answers so, and afterwards all is as if it had not been made. */
+    void refused(Supplier<LiveHull> made, String call, ToLongFunction<LiveHull> asked, long want) {
+        due(call, asked.applyAsLong(made.get()), want);
+        same(call + " and then ", made, () -> {
+            LiveHull hull = made.get();
+            asked.applyAsLong(hull);
+            return hull;
+        });
+    }
+
+    /** Two objects answer alike whatever they are asked. */
+    void same(String what, Supplier<LiveHull> one, Supplier<LiveHull> other) {
+        List<Answers.Answer> due = Answers.all(one);
+        List<Answers.Answer> got = Answers.all(other);
+        for (int k = 0; k < due.size(); k++) {
+            due(what + due.get(k).call(), got.get(k).told(), due.get(k).told());
         }
     }
 
