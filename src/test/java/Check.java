@@ -12,6 +12,11 @@ final class Check {
     private int wrong = 0;
     private String about = "";
 
+    /** A call of which one number is still open. */
+    interface Call {
+        long ask(LiveHull hull, int number);
+    }
+
     /** Runs each static method of a class that is not private and takes nothing, by its name. */
     void runAll(Class<?> tests) throws IllegalAccessException {
         Method[] methods = tests.getDeclaredMethods();
@@ -69,6 +74,13 @@ final class Check {
             asked.applyAsLong(hull);
             return hull;
         });
+    }
+
+    /** The call is refused so with each of the numbers. */
+    void refusedEach(Supplier<LiveHull> made, int[] numbers, Call asked, long want) {
+        for (int number : numbers) {
+            refused(made, "with " + number, hull -> asked.ask(hull, number), want);
+        }
     }
 
     /** Two objects answer alike whatever they are asked. */

@@ -46,27 +46,23 @@ public final class Promise02AddTest {
     }
 
     static void outsideIfXIsTooSmall() {
-        for (int x : Shapes.TOO_SMALL) {
-            check.refused(Shapes::triangle, "add(" + x + ", 1)", hull -> hull.add(x, 1), LiveHull.OUTSIDE);
-        }
+        check.refusedEach(Shapes::triangle, Shapes.TOO_SMALL, (hull, x) -> hull.add(x, 1),
+            LiveHull.OUTSIDE);
     }
 
     static void outsideIfXIsTooLarge() {
-        for (int x : Shapes.TOO_LARGE) {
-            check.refused(Shapes::triangle, "add(" + x + ", 1)", hull -> hull.add(x, 1), LiveHull.OUTSIDE);
-        }
+        check.refusedEach(Shapes::triangle, Shapes.TOO_LARGE, (hull, x) -> hull.add(x, 1),
+            LiveHull.OUTSIDE);
     }
 
     static void outsideIfYIsTooSmall() {
-        for (int y : Shapes.TOO_SMALL) {
-            check.refused(Shapes::triangle, "add(1, " + y + ")", hull -> hull.add(1, y), LiveHull.OUTSIDE);
-        }
+        check.refusedEach(Shapes::triangle, Shapes.TOO_SMALL, (hull, y) -> hull.add(1, y),
+            LiveHull.OUTSIDE);
     }
 
     static void outsideIfYIsTooLarge() {
-        for (int y : Shapes.TOO_LARGE) {
-            check.refused(Shapes::triangle, "add(1, " + y + ")", hull -> hull.add(1, y), LiveHull.OUTSIDE);
-        }
+        check.refusedEach(Shapes::triangle, Shapes.TOO_LARGE, (hull, y) -> hull.add(1, y),
+            LiveHull.OUTSIDE);
     }
 
     static void outsideWithoutAPoint() {

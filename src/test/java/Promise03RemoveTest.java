@@ -56,9 +56,7 @@ public final class Promise03RemoveTest {
     }
 
     static void unknownIfItIsNoId() {
-        for (int id : Shapes.NO_IDS) {
-            check.refused(Shapes::one, "remove(" + id + ") of one", hull -> hull.remove(id), LiveHull.UNKNOWN);
-            check.refused(Shapes::full, "remove(" + id + ") of 32", hull -> hull.remove(id), LiveHull.UNKNOWN);
-        }
+        check.refusedEach(Shapes::one, Shapes.NO_IDS, LiveHull::remove, LiveHull.UNKNOWN);
+        check.refusedEach(Shapes::full, Shapes.NO_IDS, LiveHull::remove, LiveHull.UNKNOWN);
     }
 }

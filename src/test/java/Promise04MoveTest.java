@@ -83,40 +83,29 @@ public final class Promise04MoveTest {
     }
 
     static void unknownIfItIsNoId() {
-        for (int id : Shapes.NO_IDS) {
-            check.refused(Shapes::one, "move(" + id + ", 1, 2) of one", hull -> hull.move(id, 1, 2),
-                LiveHull.UNKNOWN);
-            check.refused(Shapes::full, "move(" + id + ", 50, 50) of 32", hull -> hull.move(id, 50, 50),
-                LiveHull.UNKNOWN);
-        }
+        Check.Call call = (hull, id) -> hull.move(id, 50, 50);
+        check.refusedEach(Shapes::one, Shapes.NO_IDS, call, LiveHull.UNKNOWN);
+        check.refusedEach(Shapes::full, Shapes.NO_IDS, call, LiveHull.UNKNOWN);
     }
 
     static void outsideIfXIsTooSmall() {
-        for (int x : Shapes.TOO_SMALL) {
-            check.refused(Shapes::triangle, "move(0, " + x + ", 1)", hull -> hull.move(0, x, 1),
-                LiveHull.OUTSIDE);
-        }
+        check.refusedEach(Shapes::triangle, Shapes.TOO_SMALL, (hull, x) -> hull.move(0, x, 1),
+            LiveHull.OUTSIDE);
     }
 
     static void outsideIfXIsTooLarge() {
-        for (int x : Shapes.TOO_LARGE) {
-            check.refused(Shapes::triangle, "move(0, " + x + ", 1)", hull -> hull.move(0, x, 1),
-                LiveHull.OUTSIDE);
-        }
+        check.refusedEach(Shapes::triangle, Shapes.TOO_LARGE, (hull, x) -> hull.move(0, x, 1),
+            LiveHull.OUTSIDE);
     }
 
     static void outsideIfYIsTooSmall() {
-        for (int y : Shapes.TOO_SMALL) {
-            check.refused(Shapes::triangle, "move(1, 1, " + y + ")", hull -> hull.move(1, 1, y),
-                LiveHull.OUTSIDE);
-        }
+        check.refusedEach(Shapes::triangle, Shapes.TOO_SMALL, (hull, y) -> hull.move(1, 1, y),
+            LiveHull.OUTSIDE);
     }
 
     static void outsideIfYIsTooLarge() {
-        for (int y : Shapes.TOO_LARGE) {
-            check.refused(Shapes::triangle, "move(1, 1, " + y + ")", hull -> hull.move(1, 1, y),
-                LiveHull.OUTSIDE);
-        }
+        check.refusedEach(Shapes::triangle, Shapes.TOO_LARGE, (hull, y) -> hull.move(1, 1, y),
+            LiveHull.OUTSIDE);
     }
 
     static void noWhereAnotherIs() {

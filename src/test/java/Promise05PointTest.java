@@ -108,12 +108,11 @@ public final class Promise05PointTest {
     }
 
     static void unknownIfItIsNoId() {
-        for (int id : Shapes.NO_IDS) {
-            for (int what = 0; what < 5; what++) {
-                String call = "point(" + id + ", " + what + ")";
-                check.due(call + " of one", Shapes.one().point(id, what), LiveHull.UNKNOWN);
-                check.due(call + " of 32", Shapes.full().point(id, what), LiveHull.UNKNOWN);
-            }
+        for (int k = 0; k < 5; k++) {
+            int what = k;
+            Check.Call call = (hull, id) -> hull.point(id, what);
+            check.refusedEach(Shapes::one, Shapes.NO_IDS, call, LiveHull.UNKNOWN);
+            check.refusedEach(Shapes::full, Shapes.NO_IDS, call, LiveHull.UNKNOWN);
         }
     }
 
@@ -124,7 +123,8 @@ public final class Promise05PointTest {
 
     static void outsideIfWhatIsTooLarge() {
         check.refused(Shapes::two, "point(0, 5)", hull -> hull.point(0, 5), LiveHull.OUTSIDE);
-        check.refused(Shapes::two, "greatest", hull -> hull.point(0, Shapes.GREATEST), LiveHull.OUTSIDE);
+        check.refused(Shapes::two, "greatest", hull -> hull.point(0, Shapes.GREATEST),
+            LiveHull.OUTSIDE);
     }
 
     /** "the first of these that fits": UNKNOWN, OUTSIDE. */

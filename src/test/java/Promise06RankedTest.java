@@ -53,17 +53,13 @@ public final class Promise06RankedTest {
 
     static void noneIfItIsTooSmall() {
         int[] ranks = {-1, -2, -6, Shapes.LEAST};
-        for (int rank : ranks) {
-            check.refused(Shapes::two, "ranked(" + rank + ")", hull -> hull.ranked(rank), LiveHull.NONE);
-            check.due("ranked(" + rank + ") of 32", Shapes.full().ranked(rank), LiveHull.NONE);
-        }
+        check.refusedEach(Shapes::two, ranks, LiveHull::ranked, LiveHull.NONE);
+        check.refusedEach(Shapes::full, ranks, LiveHull::ranked, LiveHull.NONE);
     }
 
     static void noneIfItIsTooLarge() {
         int[] ranks = {2, 3, 31, 32, Shapes.GREATEST};
-        for (int rank : ranks) {
-            check.refused(Shapes::two, "ranked(" + rank + ")", hull -> hull.ranked(rank), LiveHull.NONE);
-        }
+        check.refusedEach(Shapes::two, ranks, LiveHull::ranked, LiveHull.NONE);
     }
 
     static void nonePastThirtyTwo() {

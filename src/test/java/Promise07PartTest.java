@@ -182,7 +182,8 @@ public final class Promise07PartTest {
 
     static void outsideIfWhatIsTooLarge() {
         check.refused(Shapes::two, "part(1, 6)", hull -> hull.part(1, 6), LiveHull.OUTSIDE);
-        check.refused(Shapes::two, "greatest", hull -> hull.part(3, Shapes.GREATEST), LiveHull.OUTSIDE);
+        check.refused(Shapes::two, "greatest", hull -> hull.part(3, Shapes.GREATEST),
+            LiveHull.OUTSIDE);
     }
 
     /** "the first of these that fits": UNKNOWN, OUTSIDE. */

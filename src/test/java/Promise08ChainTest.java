@@ -1,3 +1,5 @@
+import java.util.function.Supplier;
+
 /** Promise 8: "The ID of the k-th corner of a CHAIN; NONE. UNKNOWN: the PART; OUTSIDE: the side". */
 public final class Promise08ChainTest {
     private static final int FAR = Shapes.FAR;
@@ -114,21 +116,15 @@ public final class Promise08ChainTest {
 
     static void noneIfKIsTooSmall() {
         int[] ks = {-1, -2, -6, Shapes.LEAST};
-        for (int k : ks) {
-            check.refused(Shapes::two, "chain(1, 0, " + k + ")", hull -> hull.chain(1, ABOVE, k),
-                LiveHull.NONE);
-            check.refused(Shapes::two, "chain(1, 1, " + k + ")", hull -> hull.chain(1, BELOW, k),
-                LiveHull.NONE);
-        }
+        check.refusedEach(Shapes::two, ks, (hull, k) -> hull.chain(1, ABOVE, k), LiveHull.NONE);
+        check.refusedEach(Shapes::two, ks, (hull, k) -> hull.chain(1, BELOW, k), LiveHull.NONE);
     }
 
     static void noneIfKIsTooLarge() {
         int[] ks = {2, 3, 31, 32, 33, Shapes.GREATEST};
-        for (int k : ks) {
-            check.refused(Shapes::two, "chain(1, 0, " + k + ")", hull -> hull.chain(1, ABOVE, k),
-                LiveHull.NONE);
-            check.due("chain(1, 0, " + k + ") of a bowl", Shapes.bowl(32).chain(1, ABOVE, k), LiveHull.NONE);
-        }
+        Supplier<LiveHull> bowl = () -> Shapes.bowl(32);
+        check.refusedEach(Shapes::two, ks, (hull, k) -> hull.chain(1, BELOW, k), LiveHull.NONE);
+        check.refusedEach(bowl, ks, (hull, k) -> hull.chain(1, ABOVE, k), LiveHull.NONE);
         check.due("past 32", Shapes.bowl(32).chain(1, BELOW, 32), LiveHull.NONE);
     }
 
@@ -137,27 +133,30 @@ public final class Promise08ChainTest {
     }
 
     static void unknownIfItIsNoPart() {
-        for (int part : Shapes.NO_PARTS) {
-            check.due("chain(" + part + ", 0, 0) of two", Shapes.two().chain(part, 0, 0), LiveHull.UNKNOWN);
-            check.due("chain(" + part + ", 1, 0) of 32", Shapes.full().chain(part, 1, 0), LiveHull.UNKNOWN);
-        }
+        Check.Call call = (hull, part) -> hull.chain(part, 0, 0);
+        check.refusedEach(Shapes::two, Shapes.NO_PARTS, call, LiveHull.UNKNOWN);
+        check.refusedEach(Shapes::full, Shapes.NO_PARTS, call, LiveHull.UNKNOWN);
         check.refused(Shapes::two, "a half of one", hull -> hull.chain(4, 0, 0), LiveHull.UNKNOWN);
     }
 
     static void outsideIfTheSideIsTooSmall() {
-        check.refused(Shapes::two, "chain(1, -1, 0)", hull -> hull.chain(1, -1, 0), LiveHull.OUTSIDE);
-        check.refused(Shapes::two, "least", hull -> hull.chain(1, Shapes.LEAST, 0), LiveHull.OUTSIDE);
+        check.refused(Shapes::two, "chain(1, -1, 0)", hull -> hull.chain(1, -1, 0),
+            LiveHull.OUTSIDE);
+        check.refused(Shapes::two, "least", hull -> hull.chain(1, Shapes.LEAST, 0),
+            LiveHull.OUTSIDE);
     }
 
     static void outsideIfTheSideIsTooLarge() {
         check.refused(Shapes::two, "chain(1, 2, 0)", hull -> hull.chain(1, 2, 0), LiveHull.OUTSIDE);
-        check.refused(Shapes::two, "greatest", hull -> hull.chain(1, Shapes.GREATEST, 0), LiveHull.OUTSIDE);
+        check.refused(Shapes::two, "greatest", hull -> hull.chain(1, Shapes.GREATEST, 0),
+            LiveHull.OUTSIDE);
     }
 
     /** "the first of these that fits": UNKNOWN, OUTSIDE. */
     static void unknownAheadOfOutside() {
         check.refused(Shapes::two, "chain(4, 2, 0)", hull -> hull.chain(4, 2, 0), LiveHull.UNKNOWN);
-        check.refused(Shapes::none, "chain(1, -1, 0)", hull -> hull.chain(1, -1, 0), LiveHull.UNKNOWN);
+        check.refused(Shapes::none, "chain(1, -1, 0)", hull -> hull.chain(1, -1, 0),
+            LiveHull.UNKNOWN);
     }
 
     /** A call that is refused does not come to NONE. */

@@ -45,7 +45,8 @@ public final class Promise09BridgeTest {
         bridgeIs(hull, 1, ABOVE, LiveHull.NONE, 2);
         bridgeIs(hull, 2, ABOVE, LiveHull.NONE, 1);
         bridgeIs(Shapes.with(3, 1, 3, 5, 3, 9, 4, 4), 1, ABOVE, LiveHull.NONE, 2);
-        check.refused(() -> Shapes.column(2), "end 0", column -> column.bridge(1, ABOVE, 0), LiveHull.NONE);
+        check.refused(() -> Shapes.column(2), "end 0", column -> column.bridge(1, ABOVE, 0),
+            LiveHull.NONE);
     }
 
     static void noneIfTheOtherHalfHasNoCorner() {
@@ -53,18 +54,19 @@ public final class Promise09BridgeTest {
         bridgeIs(hull, 1, BELOW, 0, LiveHull.NONE);
         bridgeIs(hull, 2, BELOW, 0, LiveHull.NONE);
         bridgeIs(Shapes.with(2, 4, 3, 1, 3, 5, 3, 9), 1, BELOW, 1, LiveHull.NONE);
-        check.refused(() -> Shapes.column(2), "end 1", column -> column.bridge(1, BELOW, 1), LiveHull.NONE);
+        check.refused(() -> Shapes.column(2), "end 1", column -> column.bridge(1, BELOW, 1),
+            LiveHull.NONE);
     }
 
     static void unknownWithoutAPoint() {
-        check.refused(Shapes::none, "bridge(1, 0, 0)", hull -> hull.bridge(1, 0, 0), LiveHull.UNKNOWN);
+        check.refused(Shapes::none, "bridge(1, 0, 0)", hull -> hull.bridge(1, 0, 0),
+            LiveHull.UNKNOWN);
     }
 
     static void unknownIfItIsNoPart() {
-        for (int part : Shapes.NO_PARTS) {
-            check.due("bridge(" + part + ", 0, 0) of two", Shapes.two().bridge(part, 0, 0), LiveHull.UNKNOWN);
-            check.due("bridge(" + part + ", 1, 1) of 32", Shapes.full().bridge(part, 1, 1), LiveHull.UNKNOWN);
-        }
+        Check.Call call = (hull, part) -> hull.bridge(part, 1, 1);
+        check.refusedEach(Shapes::two, Shapes.NO_PARTS, call, LiveHull.UNKNOWN);
+        check.refusedEach(Shapes::full, Shapes.NO_PARTS, call, LiveHull.UNKNOWN);
         check.refused(Shapes::two, "a half of one", hull -> hull.bridge(4, 0, 0), LiveHull.UNKNOWN);
     }
 
@@ -79,23 +81,31 @@ public final class Promise09BridgeTest {
     }
 
     static void outsideIfTheSideIsTooSmall() {
-        check.refused(Shapes::two, "bridge(1, -1, 0)", hull -> hull.bridge(1, -1, 0), LiveHull.OUTSIDE);
-        check.refused(Shapes::two, "least", hull -> hull.bridge(1, Shapes.LEAST, 0), LiveHull.OUTSIDE);
+        check.refused(Shapes::two, "bridge(1, -1, 0)", hull -> hull.bridge(1, -1, 0),
+            LiveHull.OUTSIDE);
+        check.refused(Shapes::two, "least", hull -> hull.bridge(1, Shapes.LEAST, 0),
+            LiveHull.OUTSIDE);
     }
 
     static void outsideIfTheSideIsTooLarge() {
-        check.refused(Shapes::two, "bridge(1, 2, 0)", hull -> hull.bridge(1, 2, 0), LiveHull.OUTSIDE);
-        check.refused(Shapes::two, "greatest", hull -> hull.bridge(1, Shapes.GREATEST, 0), LiveHull.OUTSIDE);
+        check.refused(Shapes::two, "bridge(1, 2, 0)", hull -> hull.bridge(1, 2, 0),
+            LiveHull.OUTSIDE);
+        check.refused(Shapes::two, "greatest", hull -> hull.bridge(1, Shapes.GREATEST, 0),
+            LiveHull.OUTSIDE);
     }
 
     static void outsideIfTheEndIsTooSmall() {
-        check.refused(Shapes::two, "bridge(1, 0, -1)", hull -> hull.bridge(1, 0, -1), LiveHull.OUTSIDE);
-        check.refused(Shapes::two, "least", hull -> hull.bridge(1, 1, Shapes.LEAST), LiveHull.OUTSIDE);
+        check.refused(Shapes::two, "bridge(1, 0, -1)", hull -> hull.bridge(1, 0, -1),
+            LiveHull.OUTSIDE);
+        check.refused(Shapes::two, "least", hull -> hull.bridge(1, 1, Shapes.LEAST),
+            LiveHull.OUTSIDE);
     }
 
     static void outsideIfTheEndIsTooLarge() {
-        check.refused(Shapes::two, "bridge(1, 0, 2)", hull -> hull.bridge(1, 0, 2), LiveHull.OUTSIDE);
-        check.refused(Shapes::two, "greatest", hull -> hull.bridge(1, 1, Shapes.GREATEST), LiveHull.OUTSIDE);
+        check.refused(Shapes::two, "bridge(1, 0, 2)", hull -> hull.bridge(1, 0, 2),
+            LiveHull.OUTSIDE);
+        check.refused(Shapes::two, "greatest", hull -> hull.bridge(1, 1, Shapes.GREATEST),
+            LiveHull.OUTSIDE);
     }
 
     /** "in this order": UNKNOWN, NO, OUTSIDE. */

@@ -91,17 +91,13 @@ public final class Promise10RoundTest {
 
     static void noneIfKIsTooSmall() {
         int[] ks = {-2, -3, -6, Shapes.LEAST};
-        for (int k : ks) {
-            check.refused(Shapes::two, "round(" + k + ")", hull -> hull.round(k), LiveHull.NONE);
-            check.due("round(" + k + ") of none", new LiveHull().round(k), LiveHull.NONE);
-        }
+        check.refusedEach(Shapes::two, ks, LiveHull::round, LiveHull.NONE);
+        check.refusedEach(Shapes::none, ks, LiveHull::round, LiveHull.NONE);
     }
 
     static void noneIfKIsTooLarge() {
         int[] ks = {2, 3, 31, 32, 33, Shapes.GREATEST};
-        for (int k : ks) {
-            check.refused(Shapes::two, "round(" + k + ")", hull -> hull.round(k), LiveHull.NONE);
-        }
+        check.refusedEach(Shapes::two, ks, LiveHull::round, LiveHull.NONE);
         check.due("past 32", Shapes.ring().round(32), LiveHull.NONE);
         check.due("greatest of 32", Shapes.ring().round(Shapes.GREATEST), LiveHull.NONE);
     }

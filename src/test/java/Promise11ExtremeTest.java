@@ -63,27 +63,23 @@ public final class Promise11ExtremeTest {
     }
 
     static void outsideIfDxIsTooSmall() {
-        for (int dx : Shapes.TOO_SMALL) {
-            check.refused(Shapes::two, "extreme(" + dx + ", 1)", hull -> hull.extreme(dx, 1), LiveHull.OUTSIDE);
-        }
+        check.refusedEach(Shapes::two, Shapes.TOO_SMALL, (hull, dx) -> hull.extreme(dx, 1),
+            LiveHull.OUTSIDE);
     }
 
     static void outsideIfDxIsTooLarge() {
-        for (int dx : Shapes.TOO_LARGE) {
-            check.refused(Shapes::two, "extreme(" + dx + ", 1)", hull -> hull.extreme(dx, 1), LiveHull.OUTSIDE);
-        }
+        check.refusedEach(Shapes::two, Shapes.TOO_LARGE, (hull, dx) -> hull.extreme(dx, 1),
+            LiveHull.OUTSIDE);
     }
 
     static void outsideIfDyIsTooSmall() {
-        for (int dy : Shapes.TOO_SMALL) {
-            check.refused(Shapes::two, "extreme(1, " + dy + ")", hull -> hull.extreme(1, dy), LiveHull.OUTSIDE);
-        }
+        check.refusedEach(Shapes::two, Shapes.TOO_SMALL, (hull, dy) -> hull.extreme(1, dy),
+            LiveHull.OUTSIDE);
     }
 
     static void outsideIfDyIsTooLarge() {
-        for (int dy : Shapes.TOO_LARGE) {
-            check.refused(Shapes::two, "extreme(1, " + dy + ")", hull -> hull.extreme(1, dy), LiveHull.OUTSIDE);
-        }
+        check.refusedEach(Shapes::two, Shapes.TOO_LARGE, (hull, dy) -> hull.extreme(1, dy),
+            LiveHull.OUTSIDE);
     }
 
     static void noWithoutAPoint() {

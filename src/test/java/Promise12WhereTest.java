@@ -103,27 +103,23 @@ public final class Promise12WhereTest {
     }
 
     static void outsideIfXIsTooSmall() {
-        for (int x : Shapes.TOO_SMALL) {
-            check.refused(Shapes::square, "where(" + x + ", 1)", hull -> hull.where(x, 1), LiveHull.OUTSIDE);
-        }
+        check.refusedEach(Shapes::square, Shapes.TOO_SMALL, (hull, x) -> hull.where(x, 1),
+            LiveHull.OUTSIDE);
     }
 
     static void outsideIfXIsTooLarge() {
-        for (int x : Shapes.TOO_LARGE) {
-            check.refused(Shapes::square, "where(" + x + ", 1)", hull -> hull.where(x, 1), LiveHull.OUTSIDE);
-        }
+        check.refusedEach(Shapes::square, Shapes.TOO_LARGE, (hull, x) -> hull.where(x, 1),
+            LiveHull.OUTSIDE);
     }
 
     static void outsideIfYIsTooSmall() {
-        for (int y : Shapes.TOO_SMALL) {
-            check.refused(Shapes::square, "where(1, " + y + ")", hull -> hull.where(1, y), LiveHull.OUTSIDE);
-        }
+        check.refusedEach(Shapes::square, Shapes.TOO_SMALL, (hull, y) -> hull.where(1, y),
+            LiveHull.OUTSIDE);
     }
 
     static void outsideIfYIsTooLarge() {
-        for (int y : Shapes.TOO_LARGE) {
-            check.refused(Shapes::square, "where(1, " + y + ")", hull -> hull.where(1, y), LiveHull.OUTSIDE);
-        }
+        check.refusedEach(Shapes::square, Shapes.TOO_LARGE, (hull, y) -> hull.where(1, y),
+            LiveHull.OUTSIDE);
     }
 
     static void outsideWithoutAPoint() {

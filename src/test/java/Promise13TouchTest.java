@@ -98,7 +98,8 @@ public final class Promise13TouchTest {
     static void stateAtACorner() {
         for (int s = 0; s < 2; s++) {
             int side = s;
-            check.refused(Shapes::square, "of four", hull -> hull.touch(10, 10, side), LiveHull.STATE);
+            check.refused(Shapes::square, "of four", hull -> hull.touch(10, 10, side),
+                LiveHull.STATE);
             check.refused(Shapes::two, "of two", hull -> hull.touch(4, 2, side), LiveHull.STATE);
             check.refused(Shapes::one, "of one", hull -> hull.touch(5, 5, side), LiveHull.STATE);
         }
@@ -108,7 +109,8 @@ public final class Promise13TouchTest {
         for (int s = 0; s < 2; s++) {
             int side = s;
             check.refused(Shapes::square, "of four", hull -> hull.touch(3, 0, side), LiveHull.STATE);
-            check.refused(Shapes::square, "the last one", hull -> hull.touch(0, 3, side), LiveHull.STATE);
+            check.refused(Shapes::square, "the last one", hull -> hull.touch(0, 3, side),
+                LiveHull.STATE);
             check.refused(Shapes::two, "of two", hull -> hull.touch(2, 1, side), LiveHull.STATE);
         }
     }
@@ -127,40 +129,35 @@ public final class Promise13TouchTest {
     }
 
     static void outsideIfXIsTooSmall() {
-        for (int x : Shapes.TOO_SMALL) {
-            check.refused(Shapes::square, "touch(" + x + ", 1, 0)", hull -> hull.touch(x, 1, 0),
-                LiveHull.OUTSIDE);
-        }
+        check.refusedEach(Shapes::square, Shapes.TOO_SMALL, (hull, x) -> hull.touch(x, 1, 0),
+            LiveHull.OUTSIDE);
     }
 
     static void outsideIfXIsTooLarge() {
-        for (int x : Shapes.TOO_LARGE) {
-            check.refused(Shapes::square, "touch(" + x + ", 1, 1)", hull -> hull.touch(x, 1, 1),
-                LiveHull.OUTSIDE);
-        }
+        check.refusedEach(Shapes::square, Shapes.TOO_LARGE, (hull, x) -> hull.touch(x, 1, 1),
+            LiveHull.OUTSIDE);
     }
 
     static void outsideIfYIsTooSmall() {
-        for (int y : Shapes.TOO_SMALL) {
-            check.refused(Shapes::square, "touch(1, " + y + ", 0)", hull -> hull.touch(1, y, 0),
-                LiveHull.OUTSIDE);
-        }
+        check.refusedEach(Shapes::square, Shapes.TOO_SMALL, (hull, y) -> hull.touch(1, y, 0),
+            LiveHull.OUTSIDE);
     }
 
     static void outsideIfYIsTooLarge() {
-        for (int y : Shapes.TOO_LARGE) {
-            check.refused(Shapes::square, "touch(1, " + y + ", 1)", hull -> hull.touch(1, y, 1),
-                LiveHull.OUTSIDE);
-        }
+        check.refusedEach(Shapes::square, Shapes.TOO_LARGE, (hull, y) -> hull.touch(1, y, 1),
+            LiveHull.OUTSIDE);
     }
 
     static void outsideIfTheSideIsTooSmall() {
-        check.refused(Shapes::square, "touch(20, 5, -1)", hull -> hull.touch(20, 5, -1), LiveHull.OUTSIDE);
-        check.refused(Shapes::square, "least", hull -> hull.touch(20, 5, Shapes.LEAST), LiveHull.OUTSIDE);
+        check.refused(Shapes::square, "touch(20, 5, -1)", hull -> hull.touch(20, 5, -1),
+            LiveHull.OUTSIDE);
+        check.refused(Shapes::square, "least", hull -> hull.touch(20, 5, Shapes.LEAST),
+            LiveHull.OUTSIDE);
     }
 
     static void outsideIfTheSideIsTooLarge() {
-        check.refused(Shapes::square, "touch(20, 5, 2)", hull -> hull.touch(20, 5, 2), LiveHull.OUTSIDE);
+        check.refused(Shapes::square, "touch(20, 5, 2)", hull -> hull.touch(20, 5, 2),
+            LiveHull.OUTSIDE);
         check.refused(Shapes::square, "greatest", hull -> hull.touch(20, 5, Shapes.GREATEST),
             LiveHull.OUTSIDE);
     }

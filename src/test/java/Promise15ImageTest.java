@@ -90,18 +90,14 @@ public final class Promise15ImageTest {
 
     static void outsideIfItIsTooSmall() {
         int[] none = {-1, -2, Shapes.LEAST};
-        for (int n : none) {
-            check.refused(Shapes::withImages, "image(" + n + ")", hull -> hull.image(n), LiveHull.OUTSIDE);
-            check.refused(Shapes::one, "the first image(" + n + ")", hull -> hull.image(n), LiveHull.OUTSIDE);
-        }
+        check.refusedEach(Shapes::withImages, none, LiveHull::image, LiveHull.OUTSIDE);
+        check.refusedEach(Shapes::one, none, LiveHull::image, LiveHull.OUTSIDE);
     }
 
     static void outsideIfItIsTooLarge() {
         int[] none = {2, 3, Shapes.GREATEST};
-        for (int n : none) {
-            check.refused(Shapes::withImages, "image(" + n + ")", hull -> hull.image(n), LiveHull.OUTSIDE);
-            check.refused(Shapes::one, "the first image(" + n + ")", hull -> hull.image(n), LiveHull.OUTSIDE);
-        }
+        check.refusedEach(Shapes::withImages, none, LiveHull::image, LiveHull.OUTSIDE);
+        check.refusedEach(Shapes::one, none, LiveHull::image, LiveHull.OUTSIDE);
     }
 
     static void outsideWithoutAPoint() {

@@ -123,16 +123,12 @@ public final class Promise16RestoreTest {
 
     static void outsideIfItIsTooSmall() {
         int[] none = {-1, -2, Shapes.LEAST};
-        for (int n : none) {
-            check.refused(Shapes::withImages, "restore(" + n + ")", hull -> hull.restore(n), LiveHull.OUTSIDE);
-        }
+        check.refusedEach(Shapes::withImages, none, LiveHull::restore, LiveHull.OUTSIDE);
     }
 
     static void outsideIfItIsTooLarge() {
         int[] none = {2, 3, Shapes.GREATEST};
-        for (int n : none) {
-            check.refused(Shapes::withImages, "restore(" + n + ")", hull -> hull.restore(n), LiveHull.OUTSIDE);
-        }
+        check.refusedEach(Shapes::withImages, none, LiveHull::restore, LiveHull.OUTSIDE);
     }
 
     /** "the first of these that fits": OUTSIDE, STATE. */

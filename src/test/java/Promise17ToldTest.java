@@ -76,16 +76,12 @@ public final class Promise17ToldTest {
 
     static void outsideIfWhatIsTooSmall() {
         int[] none = {-1, -6, Shapes.LEAST};
-        for (int what : none) {
-            check.refused(Shapes::square, "told(" + what + ")", hull -> hull.told(what), LiveHull.OUTSIDE);
-        }
+        check.refusedEach(Shapes::square, none, LiveHull::told, LiveHull.OUTSIDE);
     }
 
     static void outsideIfWhatIsTooLarge() {
         int[] none = {5, 6, Shapes.GREATEST};
-        for (int what : none) {
-            check.refused(Shapes::square, "told(" + what + ")", hull -> hull.told(what), LiveHull.OUTSIDE);
-        }
+        check.refusedEach(Shapes::square, none, LiveHull::told, LiveHull.OUTSIDE);
     }
 
     static void outsideWithoutAPoint() {
