@@ -17,6 +17,15 @@ public final class Promise04MoveTest {
         check.due("the next ID", hull.add(1, 1), 3);
     }
 
+    static void keepsTheIdIfALesserOneIsFree() {
+        LiveHull hull = Shapes.triangle();
+        hull.remove(0);
+        check.due("move(2, 7, 8)", hull.move(2, 7, 8), 1);
+        check.due("X", hull.point(2, 0), 7);
+        check.due("the lesser one", hull.point(0, 0), LiveHull.UNKNOWN);
+        check.due("the next ID", hull.add(1, 1), 0);
+    }
+
     static void changesTheRank() {
         LiveHull hull = Shapes.with(0, 0, 5, 5, 2, 9);
         hull.move(0, 7, 7);

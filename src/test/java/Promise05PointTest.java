@@ -83,6 +83,12 @@ public final class Promise05PointTest {
         check.due("under the middle: ABOVE", hull.point(15, ABOVE), 1);
     }
 
+    /** "however wide" */
+    static void topOfOneNearlyStraightBetweenTwo() {
+        topsAre(Shapes.hair(), ABOVE, 0, 0, 0);
+        topsAre(Shapes.hair(), BELOW, 0, 1, 0);
+    }
+
     static void topFollowsWhatComesAndGoes() {
         LiveHull hull = Shapes.with(0, 0, 5, 1, 10, 0);
         check.due("a corner", hull.point(1, ABOVE), 0);

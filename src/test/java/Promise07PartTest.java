@@ -119,6 +119,7 @@ public final class Promise07PartTest {
         cornersAre(Shapes.tent(), 1, 4, 2);
         cornersAre(Shapes.tent(), 2, 2, 3);
         cornersAre(Shapes.square(), 1, 2, 2);
+        cornersAre(Shapes.hair(), 1, 3, 2);
     }
 
     /** "of PART 1: NONE" */

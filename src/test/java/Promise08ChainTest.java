@@ -90,6 +90,12 @@ public final class Promise08ChainTest {
         end.move(1, FAR - 1, FAR - 2);
         chainIs(end, 1, ABOVE, 0, 2);
         chainIs(end, 1, BELOW, 0, 1, 2);
+        LiveHull hair = Shapes.hair();
+        chainIs(hair, 1, ABOVE, 0, 1, 2);
+        chainIs(hair, 1, BELOW, 0, 2);
+        hair.move(1, -1, -2);
+        chainIs(hair, 1, ABOVE, 0, 2);
+        chainIs(hair, 1, BELOW, 0, 1, 2);
     }
 
     /** The greatest bend there can be: twice the area of half of all. */

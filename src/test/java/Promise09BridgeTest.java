@@ -39,6 +39,12 @@ public final class Promise09BridgeTest {
         bridgeIs(Shapes.level(32), 1, BELOW, 0, 31);
     }
 
+    /** "however wide" */
+    static void goesByOneNearlyStraightBetween() {
+        bridgeIs(Shapes.hair(), 1, ABOVE, 1, 2);
+        bridgeIs(Shapes.hair(), 1, BELOW, 0, 2);
+    }
+
     /** "NONE: there is no such corner" */
     static void noneIfTheFirstHalfHasNoCorner() {
         LiveHull hull = Shapes.with(3, 1, 3, 5, 3, 9);
@@ -56,6 +62,17 @@ public final class Promise09BridgeTest {
         bridgeIs(Shapes.with(2, 4, 3, 1, 3, 5, 3, 9), 1, BELOW, 1, LiveHull.NONE);
         check.refused(() -> Shapes.column(2), "end 1", column -> column.bridge(1, BELOW, 1),
             LiveHull.NONE);
+    }
+
+    /** The CHAINS that were longer once leave nothing behind. */
+    static void noneWhateverWasAskedBefore() {
+        LiveHull hull = Shapes.level(6);
+        check.due("the last one BELOW", hull.chain(1, BELOW, 1), 5);
+        for (int id = 0; id < 6; id++) {
+            hull.move(id, 0, id + 1);
+        }
+        check.due("the other half BELOW", hull.bridge(1, BELOW, 1), LiveHull.NONE);
+        check.due("the first half ABOVE", hull.bridge(1, ABOVE, 0), LiveHull.NONE);
     }
 
     static void unknownWithoutAPoint() {

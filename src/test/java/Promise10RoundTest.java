@@ -74,6 +74,7 @@ public final class Promise10RoundTest {
 
     static void goesFromBoundToBound() {
         roundIs(Shapes.widest(), 0, 1, 2, 3);
+        roundIs(Shapes.hair(), 0, 2, 1);
     }
 
     static void followsWhatComesAndGoes() {

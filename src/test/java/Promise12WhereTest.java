@@ -100,6 +100,12 @@ public final class Promise12WhereTest {
         LiveHull slope = Shapes.with(-FAR, -FAR, FAR, FAR);
         placesAre(slope, AT_EDGE, 0, 0, FAR - 1, FAR - 1);
         placesAre(slope, OUT, FAR - 1, FAR, FAR, FAR - 1, -FAR, FAR, FAR, -FAR);
+        LiveHull hair = Shapes.hair();
+        hair.move(1, FAR, -FAR);
+        placesAre(hair, OUT, 0, -1);
+        placesAre(hair, IN, -1, -2);
+        hair.remove(1);
+        placesAre(hair, OUT, 0, -1, -1, -2);
     }
 
     static void outsideIfXIsTooSmall() {

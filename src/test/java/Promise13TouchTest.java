@@ -85,6 +85,10 @@ public final class Promise13TouchTest {
         LiveHull bent = Shapes.with(FAR - 1, FAR - 1, FAR, FAR - 1);
         touchIs(bent, -FAR, -FAR, 1, 0);
         touchIs(bent, -FAR, FAR, 0, 1);
+        LiveHull hair = Shapes.hair();
+        hair.remove(1);
+        touchIs(hair, 0, -1, 0, 2);
+        touchIs(hair, -1, -2, 2, 0);
     }
 
     static void takesThePlaceAtItsBounds() {

@@ -64,6 +64,10 @@ public final class Promise14AreaTest {
         check.due("a half", hull.area(), WHOLE / 2);
     }
 
+    static void isOneHoweverWide() {
+        check.due("area()", Shapes.hair().area(), 1);
+    }
+
     static void isWholeWithManyCorners() {
         LiveHull hull = Shapes.widest();
         hull.move(0, -FAR + 1, -FAR);

@@ -37,6 +37,10 @@ public final class Promise17ToldTest {
         toldIs(Shapes.with(0, 0, 1, 1, 2, 2, 3, 3, 4, 4), 5, 9, 26, 6, 3);
     }
 
+    static void ofPointsNearlyInALine() {
+        toldIs(Shapes.hair(), 3, 5, 15, 1, 2);
+    }
+
     /** Each PART of more than one has one corner a side, and one of its two halves the same one. */
     static void ofThirtyTwoOfOneX() {
         toldIs(Shapes.column(32), 32, 63, 2 * 63, 2 * 31, 5);

@@ -47,6 +47,14 @@ final class Shapes {
         return with(-FAR, -FAR, FAR, -FAR, FAR, FAR, -FAR, FAR);
     }
 
+    /**
+     * The least triangle from bound to bound: twice its area is 1, the difference of two products of
+     * some 2 * 10^18, where the digits of a double are 256 apart.
+     */
+    static LiveHull hair() {
+        return with(-FAR, -FAR, 0, -1, FAR - 1, FAR - 3);
+    }
+
     /** A low point in each half, a high one in the middle of all. */
     static LiveHull tent() {
         return with(0, 0, 2, 1, 4, 9, 6, 9, 8, 1, 10, 0);
