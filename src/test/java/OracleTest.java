@@ -39,30 +39,9 @@ public final class OracleTest {
             last.add(text);
             if (last.size() > 40) last.remove();
             long want = oracle.answer(name, with[0], with[1], with[2]);
-            check.due(text, ask(name, with[0], with[1], with[2]), want);
+            check.due(text, Calls.ask(hull, name, with[0], with[1], with[2]), want);
         }
         if (check.failed()) System.out.println("the last calls: " + last);
-    }
-
-    private long ask(String call, int a, int b, int c) {
-        switch (call) {
-            case "add": return hull.add(a, b);
-            case "remove": return hull.remove(a);
-            case "move": return hull.move(a, b, c);
-            case "point": return hull.point(a, b);
-            case "ranked": return hull.ranked(a);
-            case "part": return hull.part(a, b);
-            case "chain": return hull.chain(a, b, c);
-            case "bridge": return hull.bridge(a, b, c);
-            case "round": return hull.round(a);
-            case "extreme": return hull.extreme(a, b);
-            case "where": return hull.where(a, b);
-            case "touch": return hull.touch(a, b, c);
-            case "area": return hull.area();
-            case "image": return hull.image(a);
-            case "restore": return hull.restore(a);
-            default: return hull.told(a);
-        }
     }
 
     /** Numbers that mostly are as told, and now and then are not. */
